@@ -14,11 +14,13 @@ public final class RectilinearRoof {
     private static final int MOST_HALVES = 24;
     private static final int MOST_DEPTHS = 26;
     private static final int MOST_PHASES = 12;
-    private static final int MOST_RUNS = 576;
+    private static final int MOST_RUNS = 288;
     private static final int MOST_COMPONENTS = 72;
     private static final int MOST_CONTOURS = 96;
     private static final int MOST_SIDES = 340;
     private static final int MOST_BRANCHES = 864;
+    private static final int LINES = 13;
+    private static final int MOST_GROUPS = 52;
     private static final int MOST_UNDO = 8;
     private static final int MOST_CHARACTERS = 60;
     private static final int MOST_COMMANDS = 30;
@@ -132,12 +134,12 @@ public final class RectilinearRoof {
 
     public int edges() {
         roof.refresh(region);
-        return roof.ground().vertices;
+        return roof.edgeList.size;
     }
 
     public int edge(int edge, int what) throws IndexOutOfBoundsException, IllegalArgumentException {
         roof.refresh(region);
-        if (edge < 0 || edge >= roof.ground().vertices) {
+        if (edge < 0 || edge >= roof.edgeList.size) {
             throw new IndexOutOfBoundsException("no such edge");
         }
         if (what < 0 || what > 6) {
@@ -152,18 +154,18 @@ public final class RectilinearRoof {
 
     public int groups() {
         roof.refresh(region);
-        return roof.ground().groupCount();
+        return roof.edgeList.groupCount;
     }
 
     public int group(int group, int what) throws IndexOutOfBoundsException, IllegalArgumentException {
         roof.refresh(region);
-        if (group < 0 || group >= roof.ground().groupCount()) {
+        if (group < 0 || group >= roof.edgeList.groupCount) {
             throw new IndexOutOfBoundsException("no such group");
         }
         if (what < 0 || what > 3) {
             throw new IllegalArgumentException("no such property of a group");
         }
-        return roof.ground().groupProperty(group, what);
+        return roof.edgeList.groupProperty(group, what);
     }
 
     public int symmetries() {
@@ -705,7 +707,7 @@ public final class RectilinearRoof {
 
         /** The next character, or 0 at the end: no character of a text is 0. */
         private int sign() {
-            return position < length ? at(text, position) : 0;
+            return position >= 0 && position < length && position < text.length ? text[position] : 0;
         }
 
         void run(Region region) {
@@ -1079,63 +1081,129 @@ public final class RectilinearRoof {
             }
             return direction == NORTH ? lowOf(side) : highOf(side);
         }
+    }
 
-        private boolean shareLine(int side, int other) {
-            return directionOf(side) == directionOf(other) && lineOf(side) == lineOf(other);
-        }
+    /**
+     * The edges, in units. They are kept by groups too: a group has a key for its direction and its
+     * line, and its edges stand in ascending order from starts to ends of its key in sorted.
+     */
+    private static final class Edges {
+        private final int[] directions = new int[MOST_SIDES];
+        private final int[] lines = new int[MOST_SIDES];
+        private final int[] lows = new int[MOST_SIDES];
+        private final int[] highs = new int[MOST_SIDES];
+        private final int[] sorted = new int[MOST_SIDES];
+        private final int[] starts = new int[MOST_GROUPS + 1];
+        private final int[] ends = new int[MOST_GROUPS];
+        private final int[] groupKeys = new int[MOST_GROUPS];
+        int size;
+        int groupCount;
 
-        private boolean opensGroup(int side) {
-            for (int i = 0; i < side; i++) {
-                if (shareLine(i, side)) {
-                    return false;
-                }
+        void build(Outline ground) {
+            size = ground.vertices;
+            groupCount = 0;
+            Arrays.fill(starts, 0);
+            for (int i = 0; i < size; i++) {
+                put(directions, i, ground.directionOf(i));
+                put(lines, i, unit(ground.lineOf(i)));
+                put(lows, i, unit(ground.lowOf(i)));
+                put(highs, i, unit(ground.highOf(i)));
+                int next = keyOf(i) + 1;
+                put(starts, next, at(starts, next) + 1);
             }
-            return true;
+            for (int key = 0; key < MOST_GROUPS; key++) {
+                put(starts, key + 1, at(starts, key) + at(starts, key + 1));
+                put(ends, key, at(starts, key));
+            }
+            for (int i = 0; i < size; i++) {
+                sortIn(i);
+            }
         }
 
-        int groupCount() {
+        private int keyOf(int edge) {
+            return directionOf(edge) * LINES + lineOf(edge);
+        }
+
+        /** The first edge of a key opens its group, as edges come in ascending order. */
+        private void sortIn(int edge) {
+            int key = keyOf(edge);
+            int end = at(ends, key);
+            if (end == at(starts, key)) {
+                put(groupKeys, groupCount, key);
+                groupCount++;
+            }
+            put(sorted, end, edge);
+            put(ends, key, end + 1);
+        }
+
+        int directionOf(int edge) {
+            return at(directions, edge);
+        }
+
+        int lineOf(int edge) {
+            return at(lines, edge);
+        }
+
+        int lowOf(int edge) {
+            return at(lows, edge);
+        }
+
+        int highOf(int edge) {
+            return at(highs, edge);
+        }
+
+        /** Whether an edge and a stretch of its line, in eighths, have more than a point in common. */
+        boolean overlaps(int edge, int from, int to) {
+            return from < 8 * at(highs, edge) && to > 8 * at(lows, edge);
+        }
+
+        /**
+         * The edges with a direction that overlap a stretch of a line, all in eighths: their number for
+         * 0, the lowest one for 1, the highest one for 2; the latter are -1 if there is none.
+         */
+        int along(int direction, int line, int from, int to, int what) {
+            boolean onGrid = line >= 0 && line <= EIGHTHS && line % 8 == 0;
+            int key = direction * LINES + line / 8;
+            int end = onGrid ? at(ends, key) : 0;
             int found = 0;
-            for (int i = 0; i < vertices; i++) {
-                if (opensGroup(i)) {
+            int lowest = -1;
+            int highest = -1;
+            for (int i = at(starts, key); i < end; i++) {
+                int edge = at(sorted, i);
+                if (overlaps(edge, from, to)) {
                     found++;
+                    lowest = lowest < 0 ? edge : lowest;
+                    highest = edge;
                 }
             }
-            return found;
-        }
-
-        private int groupOpener(int group) {
-            int found = 0;
-            for (int i = 0; i < vertices; i++) {
-                if (opensGroup(i)) {
-                    if (found == group) {
-                        return i;
-                    }
-                    found++;
-                }
+            if (what == 0) {
+                return found;
             }
-            return -1;
+            return what == 1 ? lowest : highest;
         }
 
         int groupProperty(int group, int what) {
-            int opener = groupOpener(group);
-            int members = 0;
-            int sum = 0;
-            for (int i = 0; i < vertices; i++) {
-                if (shareLine(i, opener)) {
-                    members++;
-                    sum += unit(highOf(i)) - unit(lowOf(i));
-                }
-            }
+            int key = at(groupKeys, group);
             switch (what) {
                 case 0:
-                    return directionOf(opener);
+                    return key / LINES;
                 case 1:
-                    return unit(lineOf(opener));
+                    return key % LINES;
                 case 2:
-                    return members;
+                    return at(ends, key) - at(starts, key);
                 default:
-                    return sum;
+                    return lengthOfKey(key);
             }
+        }
+
+        private int lengthOfKey(int key) {
+            int sum = 0;
+            int end = at(ends, key);
+            for (int i = at(starts, key); i < end; i++) {
+                int edge = at(sorted, i);
+                sum += highOf(edge) - lowOf(edge);
+            }
+            return sum;
         }
     }
 
@@ -1222,6 +1290,7 @@ public final class RectilinearRoof {
 
     /** All that follows from the region; it is found anew when it is asked for after a change. */
     private static final class Roof {
+        final Edges edgeList = new Edges();
         final Tree tree = new Tree();
         private final Phase nothing = new Phase();
         private final Phase[] phaseList = new Phase[MOST_PHASES];
@@ -1255,6 +1324,7 @@ public final class RectilinearRoof {
                 phase.build(before);
                 before = phase;
             }
+            edgeList.build(phaseAt(0).outline);
             tree.grow(this);
             findFaces();
             fresh = true;
@@ -1269,10 +1339,6 @@ public final class RectilinearRoof {
                 }
             }
             return nothing;
-        }
-
-        Outline ground() {
-            return phaseAt(0).outline;
         }
 
         boolean hasPhase(int phase) {
@@ -1377,26 +1443,22 @@ public final class RectilinearRoof {
             }
         }
 
+        /** In eighths: the square round the sample touches an edge with the side that the edge faces. */
         private int lowestTouched(int cell) {
             int height = 2 * at(sampleDepths, cell) - 1;
-            int edges = ground().vertices;
-            for (int edge = 0; edge < edges; edge++) {
-                if (touches(8 * (cell % SIZE) + 1, 8 * (cell / SIZE) + 3, height, edge)) {
-                    return edge;
+            int x = 8 * (cell % SIZE) + 1;
+            int y = 8 * (cell / SIZE) + 3;
+            int lowest = -1;
+            for (int direction = EAST; direction <= SOUTH; direction++) {
+                int across = isLevel(direction) ? y : x;
+                int middle = isLevel(direction) ? x : y;
+                int line = facesUp(direction) ? across - height : across + height;
+                int edge = edgeList.along(direction, line, middle - height, middle + height, 1);
+                if (edge >= 0 && (lowest < 0 || edge < lowest)) {
+                    lowest = edge;
                 }
             }
-            return -1;
-        }
-
-        /** In eighths: whether the square round a point has a part of a side on an edge that it faces. */
-        private boolean touches(int x, int y, int height, int edge) {
-            Outline ground = ground();
-            int direction = ground.directionOf(edge);
-            int across = isLevel(direction) ? y : x;
-            int along = isLevel(direction) ? x : y;
-            return across + (facesUp(direction) ? -height : height) == 8 * unit(ground.lineOf(edge))
-                    && along - height < 8 * unit(ground.highOf(edge))
-                    && along + height > 8 * unit(ground.lowOf(edge));
+            return lowest;
         }
 
         int faceOf(int x, int y) {
@@ -1404,18 +1466,17 @@ public final class RectilinearRoof {
         }
 
         int edgeProperty(int edge, int what) {
-            Outline ground = ground();
             switch (what) {
                 case 0:
-                    return ground.directionOf(edge);
+                    return edgeList.directionOf(edge);
                 case 1:
-                    return unit(ground.lineOf(edge));
+                    return edgeList.lineOf(edge);
                 case 2:
-                    return unit(ground.lowOf(edge));
+                    return edgeList.lowOf(edge);
                 case 3:
-                    return unit(ground.highOf(edge));
+                    return edgeList.highOf(edge);
                 case 4:
-                    return ground.contourOf(edge);
+                    return phaseAt(0).outline.contourOf(edge);
                 case 5:
                     return faceSize(edge);
                 default:
@@ -1444,44 +1505,28 @@ public final class RectilinearRoof {
 
         private boolean drives(int edge, int phase) {
             Outline outline = phaseAt(phase).outline;
+            int reach = 2 * phase + 1;
+            int direction = edgeList.directionOf(edge);
+            int line = 4 * edgeList.lineOf(edge) + (facesUp(direction) ? reach : -reach);
             for (int side = 0; side < outline.vertices; side++) {
-                if (comesFrom(outline, side, 2 * phase + 1, edge)) {
+                int from = 2 * (outline.lowOf(side) - reach);
+                int to = 2 * (outline.highOf(side) + reach);
+                if (outline.directionOf(side) == direction && outline.lineOf(side) == line
+                        && edgeList.overlaps(edge, from, to)) {
                     return true;
                 }
             }
             return false;
         }
 
-        /** In quarters: whether a side comes from an edge, which has moved by a reach. */
-        private boolean comesFrom(Outline outline, int side, int reach, int edge) {
-            Outline ground = ground();
-            int direction = ground.directionOf(edge);
-            if (outline.directionOf(side) != direction) {
-                return false;
-            }
-            int moved = 4 * unit(ground.lineOf(edge)) + (facesUp(direction) ? reach : -reach);
-            return outline.lineOf(side) == moved
-                    && outline.lowOf(side) - reach < 4 * unit(ground.highOf(edge))
-                    && outline.highOf(side) + reach > 4 * unit(ground.lowOf(edge));
-        }
-
+        /** The reach, in quarters, is how far the edges have moved; a side reaches as far beyond its ends. */
         int originOf(int phase, int side, int what) {
             Outline outline = phaseAt(phase).outline;
-            int edges = ground().vertices;
-            int found = 0;
-            int lowest = -1;
-            int highest = -1;
-            for (int edge = 0; edge < edges; edge++) {
-                if (comesFrom(outline, side, 2 * phase + 1, edge)) {
-                    found++;
-                    lowest = lowest < 0 ? edge : lowest;
-                    highest = edge;
-                }
-            }
-            if (what == 0) {
-                return found;
-            }
-            return what == 1 ? lowest : highest;
+            int reach = 2 * phase + 1;
+            int direction = outline.directionOf(side);
+            int line = outline.lineOf(side) + (facesUp(direction) ? -reach : reach);
+            return edgeList.along(direction, 2 * line, 2 * (outline.lowOf(side) - reach),
+                    2 * (outline.highOf(side) + reach), what);
         }
 
         int phaseProperty(int phase, int what) {

@@ -2,6 +2,7 @@ import java.util.Random;
 
 /** Long runs of calls, each answer or exception compared with the oracle's. The seeds are fixed. */
 public final class OracleTest {
+    private static final int KINDS = 8;
     private static final int[] STRANGE = {-1, -2, Integer.MIN_VALUE, Integer.MAX_VALUE, 12, 13, 96, 97, 1000,
         Integer.MAX_VALUE - 5, 1 << 30, -12};
 
@@ -11,7 +12,8 @@ public final class OracleTest {
     private final StringBuilder trail = new StringBuilder();
 
     private OracleTest(long seed) {
-        random = new Random(seed);
+        // the first numbers of neighbouring seeds are nearly the same, so seeds are put far apart
+        random = new Random(seed * 0x9E3779B97F4A7C15L);
     }
 
     public static void main(String[] args) {
@@ -19,7 +21,7 @@ public final class OracleTest {
             new OracleTest(seed).mixedRun();
         }
         for (int seed = 0; seed < 160 && !Check.tooManyWrong(); seed++) {
-            new OracleTest(1000 + seed).wholeStates();
+            new OracleTest(1000 + seed).wholeStates(seed % KINDS);
         }
         for (int seed = 0; seed < 300 && !Check.tooManyWrong(); seed++) {
             new OracleTest(5000 + seed).texts();
@@ -257,8 +259,7 @@ public final class OracleTest {
     }
 
     /** Regions of many kinds, each looked at whole. */
-    private void wholeStates() {
-        int kind = below(7);
+    private void wholeStates(int kind) {
         if (kind == 0) {
             noise(2 + below(8));
         } else if (kind == 1) {
@@ -271,6 +272,8 @@ public final class OracleTest {
             checkerboard(1 + below(3), below(2) * below(2));
         } else if (kind == 3) {
             rooms();
+        } else if (kind == 4) {
+            stripes();
         } else {
             int edits = 1 + below(10);
             for (int i = 0; i < edits; i++) {
@@ -297,6 +300,22 @@ public final class OracleTest {
                     rectangle(2, x, y, 1, 1);
                 }
             }
+        }
+    }
+
+    /** The most runs in the rows, or one long winding corridor. */
+    private void stripes() {
+        int width = 1 + below(3);
+        boolean winding = below(2) == 0;
+        for (int x = 0; x + width <= 12; x += width + 1) {
+            rectangle(0, x, 0, width, 12);
+            if (winding && x + width < 12) {
+                rectangle(0, x + width, x % 2 == 0 ? 0 : 11, 1, 1);
+            }
+        }
+        if (below(2) == 0) {
+            append("r;");
+            execute();
         }
     }
 
