@@ -20,8 +20,12 @@ public final class OracleTest {
         for (int seed = 0; seed < 40 && !Check.tooManyWrong(); seed++) {
             new OracleTest(seed).mixedRun();
         }
-        for (int seed = 0; seed < 160 && !Check.tooManyWrong(); seed++) {
-            new OracleTest(1000 + seed).wholeStates(seed % KINDS);
+        for (int seed = 0; seed < 64 && !Check.tooManyWrong(); seed++) {
+            OracleTest test = new OracleTest(1000 + seed);
+            for (int i = 0; i < 3; i++) {
+                // other regions on the same object: nothing may stay from the one before
+                test.wholeState((seed * (2 * i + 1) + i) % KINDS);
+            }
         }
         for (int seed = 0; seed < 300 && !Check.tooManyWrong(); seed++) {
             new OracleTest(5000 + seed).texts();
@@ -259,7 +263,8 @@ public final class OracleTest {
     }
 
     /** Regions of many kinds, each looked at whole. */
-    private void wholeStates(int kind) {
+    private void wholeState(int kind) {
+        compare("clear", roof::clear, oracle::clear);
         if (kind == 0) {
             noise(2 + below(8));
         } else if (kind == 1) {
