@@ -47,6 +47,10 @@ final class Check {
         same(what, outcome(call), "IndexOutOfBoundsException");
     }
 
+    static int wrong() {
+        return wrong;
+    }
+
     static boolean tooManyWrong() {
         return wrong > 40;
     }
