@@ -4,8 +4,14 @@ import java.util.List;
 /** What an object answers to every question, and to every further change, after a run of calls. */
 final class Afterwards {
     private static final int MOST_CALLS = 512;
+    private static final int LONGEST_PART = 162;
 
     private Afterwards() {
+    }
+
+    /** What an object answers after its last call is free. */
+    static boolean canAsk(List<Call> before) {
+        return before.size() + LONGEST_PART <= MOST_CALLS;
     }
 
     /** Each part of the questions is asked of an object of its own, which no more than 512 calls reach. */
@@ -33,6 +39,7 @@ final class Afterwards {
     }
 
     private static void ask(List<Call> before, List<Call> questions, List<String> answers) {
+        Check.same("calls of an object", before.size() + questions.size() <= MOST_CALLS ? 1 : 0, 1);
         RectilinearRoof roof = made(before);
         for (Call question : questions) {
             answers.add(question + ": " + question.on(roof));

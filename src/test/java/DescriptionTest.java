@@ -56,6 +56,8 @@ public final class DescriptionTest {
                         + "volume(): 13824; corners(): 4",
                 Runs.times(128, "append('m;'): 2; execute(): 1; errorPosition(): -1; count(3): 0"),
                 Runs.times(128, "append('+0,0'): 4; execute(): throws argument; errorPosition(): 4; count(3): 0"),
+                Runs.times(503, "rectangle(2, 0, 0, 1, 1)") + "undo(): 7; undo(): 6; undo(): 5; undo(): 4; undo(): 3; "
+                        + "undo(): 2; undo(): 1; undo(): 0; count(0): 1",
                 Runs.times(256, "save(): 0; restore(): 0"),
                 "rectangle(0, 0, 0, 12, 12); " + Runs.times(255, "rectangle(2, 5, 5, 1, 1); path(0, 1, 1, 11, 11)")
                         + "clearance(5, 5, 5, 5): -1");
@@ -312,6 +314,7 @@ public final class DescriptionTest {
 
     /** The floor of the room has a step at the line of the floor of a low bay, with a gap between them. */
     private static final String STEP_AND_BAY = Runs.picture("####.", "####.", "#####", "##.#.");
+    private static final String STAIRS = Runs.picture("######", "######", "######", ".#####", "..####");
 
     private static void wavefronts() {
         String words = "A side of a phase k comes from an edge if both have the same direction, the line of the side "
@@ -340,6 +343,16 @@ public final class DescriptionTest {
                         + "origin(0, 0, 0, 1): 0; origin(1, 0, 0, 0): 1");
     }
 
+    /** Asks all edges of a region, after commands, when they become extinct. */
+    private static String extinct(String region, String commands, int... phases) {
+        StringBuilder calls = new StringBuilder(region);
+        calls.append(commands.isEmpty() ? "" : "append('" + commands + "'); execute(); ");
+        for (int edge = 0; edge < phases.length; edge++) {
+            calls.append("edge(").append(edge).append(", 6): ").append(phases[edge]).append("; ");
+        }
+        return calls.append("edges(): ").append(phases.length).toString();
+    }
+
     private static void merging() {
         Sentences.hold("Wavefronts", "A side that comes from two or more edges is merged.",
                 States.ROOMS + "phase(0, 7): 0; phase(1, 7): 2; origin(1, 0, 1, 0): 2; origin(1, 0, 3, 0): 1",
@@ -352,6 +365,17 @@ public final class DescriptionTest {
                 States.ROOMS + "edge(2, 6): 1; edge(8, 6): 1; edge(1, 6): 3; edge(0, 6): 3",
                 States.ELL + "edge(4, 6): 2; edge(3, 6): 2; edge(0, 6): 3",
                 "rectangle(0, 0, 0, 1, 1); edge(0, 6): 1; edge(1, 6): 1; edge(2, 6): 1; edge(3, 6): 1",
+                // sides of the step end just where the bay and the wall under it begin
+                extinct(STEP_AND_BAY, "", 2, 2, 3, 1, 1, 1, 1, 1, 1, 3, 3, 3),
+                extinct(STEP_AND_BAY, "m;", 1, 1, 3, 2, 2, 3, 3, 3, 1, 1, 1, 1),
+                extinct(STEP_AND_BAY, "r;", 3, 2, 2, 3, 1, 1, 1, 1, 1, 1, 3, 3),
+                extinct(STEP_AND_BAY, "r;r;r;", 1, 1, 3, 3, 3, 2, 2, 3, 1, 1, 1, 1),
+                // stairs: the short steps are reached by sides made longer by r
+                extinct(STAIRS, "", 4, 4, 4, 3, 3, 4, 4, 4), extinct(STAIRS, "m;", 4, 4, 4, 4, 3, 3, 4, 4),
+                extinct(STAIRS, "r;", 3, 3, 4, 4, 4, 4, 4, 4),
+                // a room gives way to a bay: its sides do not stay
+                "rectangle(0, 0, 0, 3, 3); rectangle(0, 5, 0, 3, 3); edge(4, 6): 3; rectangle(1, 5, 1, 3, 2); "
+                        + "edge(4, 6): 1",
                 // the floor lasts as long as the higher one of the two rooms over it
                 Runs.picture("...####", "...####", "##.####", "#######") + "edge(0, 6): 4; edge(7, 6): 2");
     }
@@ -629,6 +653,7 @@ public final class DescriptionTest {
                 "rectangle(0, 0, 0, 12, 12); clearance(6, 6, 6, 6): 10; clearance(11, 11, 11, 11): 0; "
                         + "clearance(0, 0, 0, 0): -1; path(0, 6, 6, 6, 6): 0; path(10, 6, 6, 6, 6): 0; "
                         + "path(0, 11, 11, 11, 11): 0; path(0, 1, 0, 1, 0): 0",
+                "rectangle(0, 0, 0, 2, 5); phases(): 2; clearance(1, 2, 1, 2): 1; path(1, 1, 2, 1, 2): 0",
                 States.ROOMS + "clearance(1, 1, 1, 1): 1; path(0, 1, 1, 1, 1): 0; path(1, 1, 1, 1, 1): 0");
     }
 
@@ -695,7 +720,7 @@ public final class DescriptionTest {
                 examples++;
             }
         }
-        Check.same("examples of the document", examples, 5);
+        Check.same("examples of the document", examples, Doc.isThere() ? 5 : 0);
         Sentences.hold("Examples", "each one begins with a new object;",
                 "count(0): 0; count(1): 0; count(3): 0");
     }

@@ -213,6 +213,10 @@ public final class EditingTest {
                 "append('m;'); execute(): 1",
                 "append('m;r;+0,0,1,1;-0,0,1,1;^0,0,1,1;'); execute(): 5",
                 SIXTY + "execute(): 30",
+                "rectangle(0, 0, 0, 2, 1); " + Runs.times(29, "append('m;')") + "append('r;'): 60; execute(): 30; "
+                        + "contains(11, 10): true; contains(11, 11): true; count(0): 2",
+                "append('+0,0,2,1;'); " + Runs.times(25, "append('r;')") + "execute(): 26; contains(11, 0): true; "
+                        + "contains(11, 1): true; count(0): 2",
                 "append('+11,11,1,1;+11,11,1,1;+11,11,1,1;+11,11,1,1;+11,11,1,1;m;m;'); execute(): 7; "
                         + "contains(11, 11): true; count(0): 1");
     }

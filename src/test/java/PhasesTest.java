@@ -6,6 +6,7 @@ public final class PhasesTest {
     public static void main(String[] args) {
         phases();
         phaseProperties();
+        regionAfterRegion();
         phaseRefused();
         contourProperties();
         contourRefused();
@@ -63,6 +64,29 @@ public final class PhasesTest {
                         + "phase(0, 4): 288; phase(0, 5): 288; phase(0, 6): 576; phase(0, 7): 0",
                 States.WHOLE + "phase(0, 0): 2116; phase(0, 6): 184; phase(11, 0): 4; phase(11, 6): 8; "
                         + "phase(11, 4): 4");
+    }
+
+    /** Nothing may stay from the region before: its phases, contours, components, sides and branches. */
+    private static void regionAfterRegion() {
+        hold(23, "Returns a property of a phase.",
+                States.WHOLE + "phase(0, 2): 1; phase(0, 5): 4; phase(0, 6): 184; rectangle(1, 5, 5, 1, 1); "
+                        + "phase(0, 1): 1; phase(0, 2): 2; phase(0, 3): 1; phase(0, 4): 8; phase(0, 5): 4; "
+                        + "phase(0, 6): 208; undo(); phase(0, 2): 1; phase(0, 3): 0; phase(0, 4): 4; phase(0, 5): 4; "
+                        + "phase(0, 6): 184",
+                Runs.checkerboard() + "phase(0, 1): 72; clear(); rectangle(0, 0, 0, 1, 1); phase(0, 1): 1; "
+                        + "phase(0, 2): 1; phase(0, 5): 4; component(0, 1, 0): -1",
+                States.WHOLE + "phases(); clear(); "
+                        + Runs.picture("##..##", "##..##", "##..##", "......", "......", "..##..")
+                        + "phase(0, 1): 3; component(0, 3, 0): 0; component(0, 1, 3): 1; component(0, 5, 3): 2; "
+                        + "component(0, 1, 5): 1; component(0, 5, 5): 2",
+                // the room with the merged side is numbered first when the other one goes
+                Runs.picture("#####", "#####", "#####", "#####", "#.#.#", ".....", "##...", "##...")
+                        + "phase(1, 7): 1; phase(1, 4): 8; rectangle(1, 0, 0, 2, 2); phase(1, 7): 1; phase(1, 4): 4");
+        hold(31, "Returns a property of a branch.",
+                States.ROOMS + "branches(): 3; branch(0, 4): 2; event(0, 6): 1; rectangle(0, 3, 0, 2, 3); "
+                        + "branches(): 1; branch(0, 4): 0; branch(0, 1): 2; events(): 1; event(0, 5): 1; "
+                        + "event(0, 6): 0; undo(); branches(): 3; branch(0, 4): 2; branch(0, 5): 2; event(0, 6): 1; "
+                        + "event(1, 5): 2");
     }
 
     private static void phaseRefused() {
@@ -333,6 +357,9 @@ public final class PhasesTest {
                         + "clearance(6, 6, 6, 6): -1; clearance(6, 6, 1, 1): -1; clearance(1, 1, 6, 6): -1",
                 States.ROOMS + "clearance(1, 1, 6, 1): 0; clearance(6, 1, 1, 1): 0; clearance(1, 1, 2, 1): 1; "
                         + "clearance(1, 1, 11, 11): -1; clearance(11, 11, 1, 1): -1; clearance(4, 1, 1, 1): 0",
+                // in the last phase of all
+                "rectangle(0, 0, 0, 2, 5); phases(): 2; clearance(1, 2, 1, 2): 1; clearance(1, 1, 1, 3): 1; "
+                        + "clearance(1, 1, 1, 4): 0; clearance(1, 0, 1, 2): 0",
                 // two components: each has a phase, but not a common one
                 "rectangle(0, 0, 0, 3, 3); rectangle(0, 5, 0, 3, 3); clearance(1, 1, 6, 1): -1; "
                         + "clearance(6, 1, 6, 1): 1");
@@ -362,8 +389,11 @@ public final class PhasesTest {
                 Runs.picture("##.##.##", "##.##.##", "##.##.##", "########") + "path(0, 1, 3, 4, 3): 34; "
                         + "path(0, 1, 3, 7, 3): 46",
                 Runs.picture("###.###", "#.#.#.#", "#.#.#.#", "#.###.#") + "path(0, 2, 3, 3, 0): 16",
-                "rectangle(0, 0, 0, 3, 3); rectangle(0, 5, 0, 3, 3); path(0, 1, 1, 6, 1): -1; "
-                        + "path(0, 1, 1, 2, 2): 8");
+                "rectangle(0, 0, 0, 3, 3); rectangle(0, 5, 0, 3, 3); path(0, 1, 1, 6, 1): -1; path(0, 1, 1, 2, 2): 8",
+                // a longer walk before leaves nothing behind
+                States.WHOLE + "path(0, 7, 1, 1, 1): 24; clear(); rectangle(0, 0, 0, 3, 3); "
+                        + "rectangle(0, 5, 0, 3, 3); path(0, 1, 1, 6, 1): -1; path(0, 1, 1, 7, 1): -1; "
+                        + "path(0, 1, 1, 2, 1): 4");
     }
 
     private static void pathRefused() {

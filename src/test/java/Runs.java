@@ -30,7 +30,7 @@ final class Runs {
             Check.same(call + place, call.on(roof), due);
             Check.same("the oracle's " + call + place, theirs, due);
             boolean isLast = i + 1 == calls.size() || !calls.get(i + 1).isRefused();
-            if (call.isRefused() && isLast) {
+            if (call.isRefused() && isLast && Afterwards.canAsk(calls.subList(0, i + 1))) {
                 compareWithTwin(place, calls.subList(0, i + 1));
             }
         }
