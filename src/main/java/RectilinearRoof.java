@@ -349,6 +349,10 @@ public final class RectilinearRoof {
         }
     }
 
+    private static long rowAt(long[] rows, int index) {
+        return index >= 0 && index < rows.length ? rows[index] : 0L;
+    }
+
     private static int stepX(int direction) {
         return direction == EAST ? 1 : direction == WEST ? -1 : 0;
     }
@@ -780,7 +784,7 @@ public final class RectilinearRoof {
         }
 
         long row(int y) {
-            return y >= 0 && y < rows.length ? rows[y] : 0L;
+            return rowAt(rows, y);
         }
 
         void setRow(int y, long row) {
@@ -827,10 +831,6 @@ public final class RectilinearRoof {
             }
         }
 
-        private long runAt(int run) {
-            return run >= 0 && run < runs.length ? runs[run] : 0L;
-        }
-
         /** Gives the number of the next component to all runs that hang together with a run. */
         private void labelFrom(int first) {
             put(labels, first, components);
@@ -846,7 +846,7 @@ public final class RectilinearRoof {
         private int labelBeside(int run, int y, int tail) {
             int end = y >= 0 ? at(rowStarts, y + 1) : 0;
             for (int i = at(rowStarts, y); i < end; i++) {
-                if (at(labels, i) < 0 && (runAt(i) & runAt(run)) != 0L) {
+                if (at(labels, i) < 0 && (rowAt(runs, i) & rowAt(runs, run)) != 0L) {
                     put(labels, i, components);
                     put(waiting, tail, i);
                     tail++;
@@ -857,7 +857,7 @@ public final class RectilinearRoof {
 
         /** The run comes first in its component, as its lowest quarter cell does. */
         private void link(Phase before, int run) {
-            int x = lowestBit(runAt(run));
+            int x = lowestBit(rowAt(runs, run));
             int parent = before.labelOf(at(runRows, run) * QUARTERS + x);
             put(parents, components, parent);
             put(before.children, parent, before.childCount(parent) + 1);
@@ -868,7 +868,7 @@ public final class RectilinearRoof {
             int y = cell / QUARTERS;
             int end = covers(x, y) ? at(rowStarts, y + 1) : 0;
             for (int i = at(rowStarts, y); i < end; i++) {
-                if (((runAt(i) >> x) & 1L) != 0L) {
+                if (((rowAt(runs, i) >> x) & 1L) != 0L) {
                     return at(labels, i);
                 }
             }
@@ -1397,8 +1397,8 @@ public final class RectilinearRoof {
 
         private void noteSamples(int depth) {
             for (int cell = 0; cell < sampleDepths.length; cell++) {
-                int y = 4 * (cell / SIZE) + 1;
-                if (y < layer.length && ((layer[y] >> (4 * (cell % SIZE))) & 1L) != 0L) {
+                long row = rowAt(layer, 4 * (cell / SIZE) + 1);
+                if (((row >> (4 * (cell % SIZE))) & 1L) != 0L) {
                     sampleDepths[cell] = depth;
                 }
             }
@@ -1416,12 +1416,8 @@ public final class RectilinearRoof {
                 narrowed[y] = layer[y] & (layer[y] << 1) & (layer[y] >>> 1);
             }
             for (int y = 0; y < layer.length; y++) {
-                layer[y] = narrowedRow(y - 1) & narrowedRow(y) & narrowedRow(y + 1);
+                layer[y] = rowAt(narrowed, y - 1) & rowAt(narrowed, y) & rowAt(narrowed, y + 1);
             }
-        }
-
-        private long narrowedRow(int y) {
-            return y >= 0 && y < narrowed.length ? narrowed[y] : 0L;
         }
 
         int areaAt(int halves) {
